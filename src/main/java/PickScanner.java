@@ -553,19 +553,13 @@ public final class PickScanner {
             int number = entered;
             Part entering = parts[onBelt];
             entering.begin(number, length);
-            if (freeAtEntry() < settings[MERGE_GAP]) {
+            if (onBelt > 0 && freeAtEntry() < settings[MERGE_GAP]) {
                 entering.merged = true;
-                mergeLast();
+                parts[onBelt - 1].merged = true;
             }
             onBelt++;
             entered++;
             return number;
-        }
-
-        private void mergeLast() {
-            if (onBelt > 0) {
-                parts[onBelt - 1].merged = true;
-            }
         }
 
         /** The part to which a code belongs that is read now; null if it would be stray. */
@@ -690,14 +684,10 @@ public final class PickScanner {
             return place + 1 >= onBelt || gapBetween(place, place + 1) >= settings[GAP];
         }
 
+        /** No part reaches the end before the one with the greatest front. */
         private void loseParts() {
-            int place = 0;
-            for (int todo = onBelt; todo > 0; todo--) {
-                if (parts[place].front >= settings[END]) {
-                    leave(place, parts[place].reason());
-                } else {
-                    place++;
-                }
+            for (int todo = onBelt; todo > 0 && parts[0].front >= settings[END]; todo--) {
+                leave(0, parts[0].reason());
             }
         }
 

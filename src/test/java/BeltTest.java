@@ -14,6 +14,7 @@ public final class BeltTest {
         gaps();
         greatestFrontFirst();
         fullLanes();
+        freshParts();
         reasons();
         takeOff();
         undo();
@@ -640,6 +641,95 @@ public final class BeltTest {
                 part(1, 9) = 6
                 lane(0, 3) = 1
                 lane(0, 4) = 2
+                undo() = 5
+                move(5) = 1
+                part(1, 1) = 10
+                part(1, 2) = 214
+                """);
+    }
+
+    /** Objects are used again: nothing of an earlier part may stick to a later one. */
+    private static void freshParts() {
+        Script.check("promise 7: a new part has nothing of an earlier one", """
+                set(0, 50) = 300
+                set(1, 0) = 20
+                set(2, 0) = 50
+                set(5, 100) = 5
+                addLane(40, 200, 1) = 0
+                route(7, 0) = -1
+                enter(30) = 0
+                move(40) = 0
+                enter(10) = 1
+                move(10) = 0
+                read(7) = 0
+                read(7) = 0
+                move(1) = 0
+                read(7) = 0
+                read(8) = 0
+                part(0, 4) = 1
+                part(0, 5) = 1
+                part(0, 6) = 1
+                part(0, 7) = 1
+                takeOff(0) = 51
+                takeOff(1) = 11
+                enter(20) = 2
+                enter(20) = ISE
+                move(120) = 0
+                enter(20) = 3
+                part(2, 3) = -1
+                part(2, 4) = 0
+                part(2, 5) = 0
+                part(2, 6) = 0
+                part(2, 7) = 0
+                part(3, 3) = -1
+                part(3, 4) = 0
+                part(3, 5) = 0
+                part(3, 6) = 0
+                part(3, 7) = 0
+                part(0, 4) = 1
+                part(0, 6) = 1
+                part(0, 7) = 1
+                total(9) = 1
+                total(10) = 1
+                total(11) = 1
+                total(12) = 2
+                """);
+        Script.check("promise 7: a new part has not been tried", """
+                set(0, 50) = 300
+                set(1, 0) = 20
+                addLane(40, 100, 1) = 0
+                route(7, 0) = -1
+                enter(10) = 0
+                move(15) = 0
+                enter(10) = 1
+                move(35) = 0
+                read(7) = 0
+                move(1) = 0
+                part(0, 9) = 5
+                takeOff(0) = 51
+                takeOff(1) = 36
+                enter(10) = 2
+                part(2, 9) = 0
+                part(0, 9) = 5
+                """);
+        Script.check("promises 9, 14 and 20: the last lane takes parts like the others", """
+                set(0, 50) = 300
+                addLane(9, 1, 1) = 0
+                addLane(9, 1, 1) = 1
+                addLane(9, 1, 1) = 2
+                addLane(9, 1, 1) = 3
+                addLane(9, 1, 1) = 4
+                addLane(90, 1, 1) = 5
+                route(7, 5) = -1
+                enter(10) = 0
+                move(50) = 0
+                read(7) = 0
+                move(500) = 1
+                part(0, 1) = 15
+                part(0, 2) = 95
+                total(3) = 1
+                share() = 1.0
+                lane(5, 4) = 1
                 """);
     }
 
@@ -865,6 +955,21 @@ public final class BeltTest {
                 load() = 0
                 laneFor(1, 10) = -1
                 total(13) = 3
+                """);
+        Script.check("promise 11: repeats, and the time of the latest read", """
+                set(0, 50) = 300
+                enter(400) = 0
+                move(50) = 0
+                read(2) = 0
+                move(51) = 0
+                read(2) = 0
+                part(0, 6) = 1
+                undo() = 5
+                part(0, 6) = 0
+                part(0, 7) = 0
+                read(2) = 0
+                part(0, 6) = 1
+                part(0, 7) = 0
                 """);
         Script.check("promise 11: reads", """
                 set(0, 50) = 300

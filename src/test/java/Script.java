@@ -59,6 +59,7 @@ final class Script {
         }
         try {
             Method method = scanner.getClass().getDeclaredMethod(name, types);
+            method.setAccessible(true);
             return String.valueOf(method.invoke(scanner, values));
         } catch (InvocationTargetException thrown) {
             return shortName(thrown.getCause());
