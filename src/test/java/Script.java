@@ -1,16 +1,22 @@
 import java.lang.reflect.InvocationTargetException;
 import java.lang.reflect.Method;
+import java.util.Arrays;
+import java.util.HashMap;
+import java.util.Map;
 import java.util.regex.Matcher;
 import java.util.regex.Pattern;
 
 /**
- * Runs written calls on a new PickScanner and compares the answers. A line of a script is one of
+ * Runs written calls on a new PickScanner and compares the answers; then once more on NaiveScanner,
+ * so that a script and the reference program can't disagree unseen. A line of a script is one of
  * <pre>
  *   call(1, 2) = answer          the answer as a number, or IAE, ISE or IOOBE for an exception
  *   3 times call(1) = answer     the same call several times, each with this answer
+ *   a() = 1; b(2) = 3            several calls
  *   type ?c5;0x                  appends the characters one by one to the empty buffer
  *   # a remark
  * </pre>
+ * All that can be seen of the object is compared around each call that throws: it changes nothing.
  */
 final class Script {
     private static final Pattern CALL = Pattern.compile("(?:(\\d+) times )?(\\w+)\\(([^)]*)\\) = (\\S+)");
@@ -18,17 +24,22 @@ final class Script {
     private static int right = 0;
 
     private final Object scanner;
+    private final Map<String, Method> methods = new HashMap<>();
 
     Script(Object scanner) {
         this.scanner = scanner;
     }
 
     static void check(String title, String lines) {
-        Script script = new Script(new PickScanner());
+        new Script(new PickScanner()).runLines(title, lines);
+        new Script(new NaiveScanner()).runLines("NaiveScanner, " + title, lines);
+    }
+
+    void runLines(String title, String lines) {
         int number = 0;
         for (String line : lines.split("\n")) {
             number++;
-            script.runLine(title + ", line " + number, line.trim());
+            runLine(title + ", line " + number, line.trim());
         }
     }
 
@@ -51,21 +62,29 @@ final class Script {
 
     /** What a call answers: its value, or the name of the exception that it throws. */
     String answer(String name, int... arguments) {
-        Class<?>[] types = new Class<?>[arguments.length];
         Object[] values = new Object[arguments.length];
         for (int i = 0; i < arguments.length; i++) {
-            types[i] = int.class;
             values[i] = arguments[i];
         }
         try {
-            Method method = scanner.getClass().getDeclaredMethod(name, types);
-            method.setAccessible(true);
-            return String.valueOf(method.invoke(scanner, values));
+            return String.valueOf(method(name, arguments.length).invoke(scanner, values));
         } catch (InvocationTargetException thrown) {
             return shortName(thrown.getCause());
         } catch (ReflectiveOperationException missing) {
             throw new IllegalStateException("no such call: " + name, missing);
         }
+    }
+
+    private Method method(String name, int count) throws ReflectiveOperationException {
+        Method method = methods.get(name);
+        if (method == null) {
+            Class<?>[] types = new Class<?>[count];
+            Arrays.fill(types, int.class);
+            method = scanner.getClass().getDeclaredMethod(name, types);
+            method.setAccessible(true);
+            methods.put(name, method);
+        }
+        return method;
     }
 
     private static String shortName(Throwable thrown) {
@@ -89,13 +108,24 @@ final class Script {
             type(where, line.substring("type ".length()));
             return;
         }
-        Matcher call = CALL.matcher(line);
+        for (String call : line.split(";")) {
+            runCall(where, call.trim());
+        }
+    }
+
+    private void runCall(String where, String text) {
+        Matcher call = CALL.matcher(text);
         if (!call.matches()) {
-            throw new IllegalArgumentException(where + ": not a line of a script: " + line);
+            throw new IllegalArgumentException(where + ": not a call of a script: " + text);
         }
         int times = call.group(1) == null ? 1 : Integer.parseInt(call.group(1));
+        boolean throwing = call.group(4).matches("[A-Z]+");
+        String before = throwing ? Fingerprint.of(this) : "";
         for (int i = 0; i < times; i++) {
-            due(where + ": " + line, answer(call.group(2), numbers(call.group(3))), call.group(4));
+            due(where + ": " + text, answer(call.group(2), numbers(call.group(3))), call.group(4));
+        }
+        if (throwing) {
+            due(where + ": changed by " + text, Fingerprint.difference(before, Fingerprint.of(this)), "none");
         }
     }
 
