@@ -138,7 +138,12 @@ final class BeltSentences {
                 enter(10) = 19; total(2) = 20
                 move(10) = 0
                 enter(10) = ISE; total(2) = 20; total(1) = 20
+                part(0, 2) = 200; part(19, 2) = 10; gapAhead(19) = 0; ranked(19) = 19; fateOf(19) = 1
                 takeOff(10) = 100; total(2) = 19
+                part(10, 1) = 9; part(10, 2) = 100
+                undo() = 5
+                part(10, 1) = 0; part(19, 2) = 10; total(2) = 20
+                takeOff(19) = 10; part(19, 1) = 9; part(19, 2) = 10; total(2) = 19
                 enter(10) = 20; total(2) = 20
                 """);
         StringBuilder most = new StringBuilder();
@@ -149,7 +154,7 @@ final class BeltSentences {
         Sentences.terms("and at most 300 parts enter in all.", most + """
                 total(1) = 299
                 enter(10) = 299; total(1) = 300
-                takeOff(299) = 0; total(2) = 0
+                takeOff(299) = 0; total(2) = 0; total(5) = 300; part(299, 1) = 9; part(299, 0) = 10; part(300, 1) = IOOBE
                 enter(10) = ISE; total(1) = 300
                 entryIn() = 0
                 undo() = 5; undo() = 4

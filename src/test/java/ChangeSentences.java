@@ -240,6 +240,12 @@ final class ChangeSentences {
                 removeRoute(0) = 1
                 route(998, 0) = -1; route(0, 0) = ISE
                 routeAt(28) = 9980; routeAt(29) = 9991
+                move(1) = 0; undo() = 5
+                routeAt(28) = 9980; routeAt(29) = 9991; total(7) = 30
+                removeRoute(999) = 1; route(997, 0) = -1; undo() = 5; undo() = 4
+                routeAt(28) = 9980; routeAt(29) = 9991; laneFor(999, 10) = 1; laneFor(997, 10) = -1
+                route(999, 0) = 1; undo() = 4
+                routeAt(29) = 9991; laneFor(999, 10) = 1
                 """);
     }
 
@@ -347,8 +353,10 @@ final class ChangeSentences {
                 move(199) = 0
                 part(0, 2) = 999
                 enter(10) = ISE
+                nextLeaving() = 1
                 move(1) = 1
                 # part 0 has left
+                part(0, 1) = 1; part(0, 2) = 1000; lost(1) = 1
                 enter(10) = 20; total(2) = 20
                 move(39) = 0; enter(10) = ISE
                 """);

@@ -494,8 +494,12 @@ final class MovingSentences {
             lanes.append("addLane(46, 1, 1) = ").append(i).append("; route(").append(i).append(", ").append(i).append(") = -1\n");
         }
         for (int i = 0; i < 6; i++) {
-            lanes.append("enter(10) = P; move(50) = 0; read(P) = P; move(1) = 1; part(P, 1) = 1P; fateOf(P) = 1P\n"
-                    .replace("P", "" + i));
+            lanes.append("""
+                    enter(10) = P; move(50) = 0; read(P) = P; part(P, 1) = 0; fateOf(P) = 1P
+                    move(1) = 1; part(P, 1) = 1P; fateOf(P) = 1P; lane(P, 3) = 1; lane(P, 4) = 1
+                    undo() = 5; part(P, 1) = 0; fateOf(P) = 1P; lane(P, 3) = 0; lane(P, 4) = 0
+                    move(1) = 1; part(P, 1) = 1P; fateOf(P) = 1P
+                    """.replace("P", "" + i));
         }
         Sentences.terms("10 + the lane if it was diverted", lanes + """
                 total(3) = 6; total(4) = 0; total(5) = 0; share() = 1.0
