@@ -328,7 +328,7 @@ public final class PickScanner {
         return (double) countFates(DIVERTED, DIVERTED + MOST_LANES - 1) / (double) gone;
     }
 
-    // ---- what would be, if nothing else is done
+    // ---- what would be, if nothing else is done; nothing changes, and the limit of the distance does not apply
 
     public int fateOf(int part) throws IndexOutOfBoundsException {
         if (!hasEntered(part)) {
