@@ -72,7 +72,7 @@ public final class ReadmeTest {
             Script.due(".ci/run can be run", Files.isExecutable(Path.of(".ci/run")) ? "yes" : "no", "yes");
             return "";
         }
-        Process process = new ProcessBuilder("bash", "-e", "-c", commands).redirectErrorStream(true).start();
+        Process process = new ProcessBuilder("bash", "-e", "-c", commands).redirectError(ProcessBuilder.Redirect.INHERIT).start();
         process.getOutputStream().close();
         String printed = new String(process.getInputStream().readAllBytes());
         int exit = process.waitFor();
